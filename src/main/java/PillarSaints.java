@@ -319,9 +319,9 @@ public final class PillarSaints {
     public int seen(int what) {
         switch (what) {
             case 0:
-                return now.world.seenFromFirst();
+                return now.world.seenFrom(false);
             case 1:
-                return now.world.seenFromLast();
+                return now.world.seenFrom(true);
             case 2:
                 return now.world.storks();
             default:
@@ -1008,24 +1008,13 @@ public final class PillarSaints {
             return sum;
         }
 
-        int seenFromFirst() {
+        int seenFrom(boolean last) {
             int count = 0;
-            int highest = 0;
-            for (int p = 0; p < pillars; p++) {
-                if (tall[p] > highest) {
-                    highest = tall[p];
-                    count++;
-                }
-            }
-            return count;
-        }
-
-        int seenFromLast() {
-            int count = 0;
-            int highest = 0;
-            for (int p = pillars - 1; p >= 0; p--) {
-                if (tall[p] > highest) {
-                    highest = tall[p];
+            int tallest = 0;
+            for (int i = 0; i < pillars; i++) {
+                int p = last ? pillars - 1 - i : i;
+                if (tall[p] > tallest) {
+                    tallest = tall[p];
                     count++;
                 }
             }
@@ -1453,7 +1442,7 @@ public final class PillarSaints {
                 if (part == free) {
                     break;
                 }
-                part = part - free & free;
+                part = (part - free) & free;
             }
             return best;
         }
@@ -1751,7 +1740,9 @@ public final class PillarSaints {
             plan.count = 0;
             tenets.count = 0;
             for (int i = 0; i < MAX_TAPE && kind() != Tokens.END; i++) {
-                boolean fine = k == TEXT_LAW ? lawLine() : k == TEXT_SKY ? skyLine() : k == TEXT_PLAN ? planLine() : tenetLine();
+                boolean fine = k == TEXT_LAW ? lawLine()
+                        : k == TEXT_SKY ? skyLine()
+                        : k == TEXT_PLAN ? planLine() : tenetLine();
                 if (!fine) {
                     return NONE;
                 }
