@@ -417,6 +417,8 @@ public final class PromisesTest {
         faulty(x, 0, "eats 1 2;", 1, 7);
         faulty(x, 0, "eatsage;", 1, 0);
         faulty(x, 0, "Eats 1;", 1, 0);
+        faulty(x, 0, "eatsz 1;", 1, 0);
+        faulty(x, 0, "eats{1;", 1, 4);
         faulty(x, 0, "eats 1.;", 1, 6);
         faulty(x, 0, "eats\t1;", 1, 4);
         faulty(x, 0, "eats 12345;", 1, 5);
@@ -711,6 +713,9 @@ public final class PromisesTest {
         due("heir(0)", x.heir(0), 1);
         due("heir(3)", x.heir(3), 0);
         due("without pillars", crowd(0, 1, 2).heir(0), -1);
+        PillarSaints all = crowd(10, 1, 2, 3, 4, 5, 6, 7, 8, 9, 10, 11, 12, 13, 14);
+        due("heir(13)", all.heir(13), 13);
+        due("heir(14)", all.heir(14), -1);
     }
 
     private static void comes() {
@@ -812,6 +817,9 @@ public final class PromisesTest {
         due("seen(2)", x.seen(2), 4 + 16);
         due("seen(3)", x.seen(3), -1);
         due("seen(-1)", x.seen(-1), -1);
+        due("from the last up to the first", row(10, 9, 8, 7, 6, 5, 4, 3, 2, 1).seen(1), 10);
+        due("from the last up to the first", row(9, 2).seen(1), 2);
+        due("from the first up to the last", row(1, 2, 3).seen(0), 3);
         due("one pillar", row(1).seen(2), 1);
         due("two alike", row(2, 2).seen(2), 0);
         due("one pillar", row(1).seen(0), 1);
