@@ -144,12 +144,13 @@ public final class PillarSaints {
     }
 
     public int text(int k) {
+        int length = tapeLength;
+        tapeLength = 0;
         if (k < TEXT_LAW || k > TEXT_TENETS) {
             reader.forgetFault();
             return NONE;
         }
-        int lines = reader.read(k, tape, tapeLength, now.world);
-        tapeLength = 0;
+        int lines = reader.read(k, tape, length, now.world);
         if (lines != NONE) {
             now.takeText(k, reader);
         }

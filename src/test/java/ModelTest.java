@@ -700,11 +700,12 @@ public final class ModelTest {
         int text(int k) {
             fault = 0;
             faultPlace = NONE;
+            String told = tape.toString();
+            tape.setLength(0);
             if (!in(k, 0, 3)) {
                 return NONE;
             }
-            Parser p = new Parser(k, tape.toString(), now.tall.size(), now.saints.size());
-            tape.setLength(0);
+            Parser p = new Parser(k, told, now.tall.size(), now.saints.size());
             try {
                 if (k == 0) {
                     texts.law = p.law();

@@ -396,7 +396,12 @@ public final class PromisesTest {
         due("nothing forgotten", x.look(15), 1);
         fine(x, 2, times(16, "on 999 say 0;"), 16);
         due("forgotten", x.look(15), 0);
+        due("feed", x.feed(0, 0, 0, 0, 0), 20);
         due("text(4)", x.text(4), -1);
+        due("tape empty with no such text", x.feed(0, 0, 0, 0, 0), 20);
+        due("text(-1)", x.text(-1), -1);
+        due("tape empty with no such text", x.end(1), false);
+        due("as they were", x.look(10) + x.look(11) + x.look(12) + x.look(13), 64);
         faulty(x, 1, ";", 1, 0);
         due("text(-1)", x.text(-1), -1);
         promise = "promise 11";
