@@ -1903,7 +1903,6 @@ public final class PillarSaints {
                 int sign = kind();
                 if (sign != '*' && sign != '/' && waiting != 0) {
                     law.emit(waiting);
-                    waiting = 0;
                 }
                 if (sign != '*' && sign != '/' && sign != '+' && sign != '-') {
                     return true;

@@ -417,6 +417,10 @@ public final class PromisesTest {
         promise = "terms 2, the law";
         PillarSaints x = crowd(1, 0);
         faulty(x, 0, "eats", 1, 4);
+        faulty(x, 0, "eatsA 1;", 1, 0);
+        faulty(x, 0, "eatsZ 1;", 1, 0);
+        faulty(x, 0, "eats@ 1;", 1, 4);
+        faulty(x, 0, "eats[ 1;", 1, 4);
         faulty(x, 0, "eats ", 1, 5);
         faulty(x, 0, "eats 1", 1, 6);
         faulty(x, 0, "eats 1 2;", 1, 7);
