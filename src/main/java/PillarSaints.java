@@ -307,7 +307,7 @@ public final class PillarSaints {
         if (what == 2) {
             return now.tenets.idle();
         }
-        if (tenet < 0 || tenet >= TENETS || what < 0 || what > 2) {
+        if (tenet < 0 || tenet >= TENETS || what < 0 || what > 1) {
             return NONE;
         }
         int fewest = now.tenets.fewestFor(tenet);

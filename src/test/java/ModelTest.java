@@ -9,7 +9,7 @@ public final class ModelTest {
     static int wrong = 0;
 
     public static void main(String[] args) {
-        int runs = args.length > 0 ? Integer.parseInt(args[0]) : 1500;
+        int runs = args.length > 0 ? Integer.parseInt(args[0]) : 2000;
         int first = args.length > 1 ? Integer.parseInt(args[1]) : 0;
         for (int seed = first; seed < first + runs && wrong < 10; seed++) {
             new Run(seed).go();
@@ -1181,7 +1181,8 @@ public final class ModelTest {
                 put("dies 1;");
                 due("text(0)", x.text(0), m.text(0));
             }
-            while (calls < 700 && !off) {
+            // the longest part of a run has some thirty calls, and an object is used for 512 at most
+            while (calls < 480 && !off) {
                 call();
             }
         }

@@ -1,71 +1,5 @@
 /** Each promise by hand: ordinary calls, the edges that the document names, and what it refuses. */
-public final class PromisesTest {
-    private static int wrong = 0;
-    private static String promise = "";
-
-    private static void due(String call, int got, int want) {
-        if (got != want) {
-            wrong++;
-            System.out.println(promise + ": " + call + " answered " + got + ", due is " + want);
-        }
-    }
-
-    private static void due(String call, boolean got, boolean want) {
-        due(call, got ? 1 : 0, want ? 1 : 0);
-    }
-
-    private static void tape(PillarSaints x, String s) {
-        x.end(0);
-        for (int i = 0; i < s.length(); i += 20) {
-            int[] a = new int[5];
-            for (int j = 0; j < 20; j++) {
-                a[j / 4] = a[j / 4] << 8 | (i + j < s.length() ? s.charAt(i + j) : ' ');
-            }
-            x.feed(a[0], a[1], a[2], a[3], a[4]);
-        }
-        x.end(s.length());
-    }
-
-    private static int told(PillarSaints x, int k, String s) {
-        tape(x, s);
-        return x.text(k);
-    }
-
-    private static void fine(PillarSaints x, int k, String s, int lines) {
-        due("text(" + k + ") of \"" + s + "\"", told(x, k, s), lines);
-        due("fault(0) of \"" + s + "\"", x.fault(0), 0);
-        due("fault(1) of \"" + s + "\"", x.fault(1), -1);
-    }
-
-    private static void faulty(PillarSaints x, int k, String s, int fault, int place) {
-        due("text(" + k + ") of \"" + s + "\"", told(x, k, s), -1);
-        due("fault(0) of \"" + s + "\"", x.fault(0), fault);
-        due("fault(1) of \"" + s + "\"", x.fault(1), place);
-    }
-
-    private static String times(int n, String s) {
-        return s.repeat(n);
-    }
-
-    private static PillarSaints row(int... tall) {
-        PillarSaints x = new PillarSaints();
-        for (int t : tall) {
-            x.pillar(t);
-        }
-        return x;
-    }
-
-    private static PillarSaints crowd(int pillars, int... doctrines) {
-        PillarSaints x = new PillarSaints();
-        for (int i = 0; i < pillars; i++) {
-            x.pillar(10);
-        }
-        for (int d : doctrines) {
-            x.saint(20, 5, d);
-        }
-        return x;
-    }
-
+public final class PromisesTest extends Due {
     public static void main(String[] args) {
         newObject();
         state();
@@ -101,14 +35,11 @@ public final class PromisesTest {
         undo();
         image();
         look();
-        System.out.println(wrong == 0 ? "promises: all answers are as due" : "promises: " + wrong + " answers are not as due");
-        if (wrong != 0) {
-            System.exit(1);
-        }
+        finish("promises");
     }
 
     private static void newObject() {
-        promise = "promise 1";
+        by("promise 1");
         PillarSaints x = new PillarSaints();
         for (int what = 0; what <= 15; what++) {
             due("look(" + what + ")", x.look(what), 0);
@@ -121,7 +52,7 @@ public final class PromisesTest {
     }
 
     private static void state() {
-        promise = "promise 2";
+        by("promise 2");
         PillarSaints x = new PillarSaints();
         due("state", x.state(-77), 0);
         due("state", x.state(Integer.MIN_VALUE), -77);
@@ -132,7 +63,7 @@ public final class PromisesTest {
     }
 
     private static void pillar() {
-        promise = "promise 3";
+        by("promise 3");
         PillarSaints x = new PillarSaints();
         due("pillar(0)", x.pillar(0), -1);
         due("pillar(100)", x.pillar(100), -1);
@@ -159,7 +90,7 @@ public final class PromisesTest {
     }
 
     private static void saint() {
-        promise = "promise 4";
+        by("promise 4");
         PillarSaints x = row(5, 5);
         int[][] bad = {{-1, 0, 0}, {121, 0, 0}, {0, -1, 0}, {0, 10, 0}, {0, 0, -100}, {0, 0, 100}};
         for (int[] b : bad) {
@@ -181,7 +112,7 @@ public final class PromisesTest {
     }
 
     private static void set() {
-        promise = "promise 5";
+        by("promise 5");
         PillarSaints x = crowd(1, 7);
         int[][] bounds = {{0, 0, 120}, {1, 0, 9}, {2, -99, 99}, {3, 0, 99}};
         for (int[] b : bounds) {
@@ -210,7 +141,7 @@ public final class PromisesTest {
     }
 
     private static void act() {
-        promise = "promise 6";
+        by("promise 6");
         PillarSaints x = new PillarSaints();
         due("act(0, 0, 0)", x.act(0, 0, 0), false);
         due("act(0, 0, 1000)", x.act(0, 0, 1000), false);
@@ -256,7 +187,7 @@ public final class PromisesTest {
     }
 
     private static void days() {
-        promise = "promise 7";
+        by("promise 7");
         PillarSaints x = new PillarSaints();
         due("days(0)", x.days(0), -1);
         due("days(61)", x.days(61), -1);
@@ -284,7 +215,7 @@ public final class PromisesTest {
 
     /** The parts of a day, one behind the other. */
     private static void dayOrder() {
-        promise = "terms 3";
+        by("terms 3");
         PillarSaints x = crowd(2, 0, 40, 0);
         x.act(0, 0, 10);
         fine(x, 0, "eats 4;leans 9 when place=2;leans above-doctrine;dies 0;", 4);
@@ -354,13 +285,13 @@ public final class PromisesTest {
     }
 
     private static void feedAndEnd() {
-        promise = "promise 8";
+        by("promise 8");
         PillarSaints x = new PillarSaints();
         for (int i = 1; i <= 20; i++) {
             due("feed", x.feed(0, 0, 0, 0, 0), 20 * i);
         }
         due("feed", x.feed(0, 0, 0, 0, 0), -1);
-        promise = "promise 9";
+        by("promise 9");
         due("end(401)", x.end(401), false);
         due("end(-1)", x.end(-1), false);
         due("end(381)", x.end(381), true);
@@ -377,7 +308,7 @@ public final class PromisesTest {
     }
 
     private static void text() {
-        promise = "promise 10";
+        by("promise 10");
         PillarSaints x = crowd(2, 0, 0);
         fine(x, 0, "", 0);
         fine(x, 0, " \n ", 0);
@@ -387,14 +318,14 @@ public final class PromisesTest {
         faulty(x, 0, "eats 1; dies;", 1, 12);
         due("tape empty then", x.feed(0, 0, 0, 0, 0), 20);
         due("stays as it was", x.look(10), 3);
-        fine(x, 0, times(16, "eats 1;"), 16);
+        fine(x, 0, "eats 1;".repeat(16), 16);
         x.act(0, 0, 3);
-        fine(x, 1, times(16, "day 999 is 9;"), 16);
-        fine(x, 3, times(16, "0 and 15 so 1;"), 16);
+        fine(x, 1, "day 999 is 9;".repeat(16), 16);
+        fine(x, 3, "0 and 15 so 1;".repeat(16), 16);
         due("nothing forgotten", x.look(15), 1);
         faulty(x, 2, "on;", 1, 2);
         due("nothing forgotten", x.look(15), 1);
-        fine(x, 2, times(16, "on 999 say 0;"), 16);
+        fine(x, 2, "on 999 say 0;".repeat(16), 16);
         due("forgotten", x.look(15), 0);
         due("feed", x.feed(0, 0, 0, 0, 0), 20);
         due("text(4)", x.text(4), -1);
@@ -404,7 +335,7 @@ public final class PromisesTest {
         due("as they were", x.look(10) + x.look(11) + x.look(12) + x.look(13), 64);
         faulty(x, 1, ";", 1, 0);
         due("text(-1)", x.text(-1), -1);
-        promise = "promise 11";
+        by("promise 11");
         due("fault(0)", x.fault(0), 0);
         due("fault(1)", x.fault(1), -1);
         faulty(x, 1, " ;", 1, 1);
@@ -414,7 +345,7 @@ public final class PromisesTest {
     }
 
     private static void lawFaults() {
-        promise = "terms 2, the law";
+        by("terms 2, the law");
         PillarSaints x = crowd(1, 0);
         faulty(x, 0, "eats", 1, 4);
         faulty(x, 0, "eatsA 1;", 1, 0);
@@ -449,25 +380,25 @@ public final class PromisesTest {
         faulty(x, 0, "eats 1 when not;", 1, 15);
         faulty(x, 0, "when 1;", 1, 0);
         faulty(x, 0, ";", 1, 0);
-        faulty(x, 0, times(17, "eats 1;"), 3, 112);
-        faulty(x, 0, times(16, "eats 1;") + "when", 1, 112);
-        faulty(x, 0, times(16, "eats 1;") + " dies", 3, 113);
-        fine(x, 0, "eats 1 when " + times(8, "(") + "1=1" + times(8, ")") + ";", 1);
-        fine(x, 0, "eats 1 when " + times(8, "not ") + "1=1;", 1);
-        faulty(x, 0, "eats 1 when " + times(9, "(") + "1=1", 3, 20);
-        faulty(x, 0, "eats 1 when " + times(4, "not(") + "not(", 3, 12 + 16);
-        fine(x, 0, "eats 1 when " + times(4, "not(") + "1=1" + times(4, ")") + " and not (1=2) or (not 1=1);", 1);
-        fine(x, 0, "eats 1 when " + times(12, "not 1=1 and (1=1) and ") + "1=1;", 1);
+        faulty(x, 0, "eats 1;".repeat(17), 3, 112);
+        faulty(x, 0, "eats 1;".repeat(16) + "when", 1, 112);
+        faulty(x, 0, "eats 1;".repeat(16) + " dies", 3, 113);
+        fine(x, 0, "eats 1 when " + "(".repeat(8) + "1=1" + ")".repeat(8) + ";", 1);
+        fine(x, 0, "eats 1 when " + "not ".repeat(8) + "1=1;", 1);
+        faulty(x, 0, "eats 1 when " + "(".repeat(9) + "1=1", 3, 20);
+        faulty(x, 0, "eats 1 when " + "not(".repeat(4) + "not(", 3, 12 + 16);
+        fine(x, 0, "eats 1 when " + "not(".repeat(4) + "1=1" + ")".repeat(4) + " and not (1=2) or (not 1=1);", 1);
+        fine(x, 0, "eats 1 when " + "not 1=1 and (1=1) and ".repeat(12) + "1=1;", 1);
     }
 
     private static void otherFaults() {
-        promise = "terms 2, the others";
+        by("terms 2, the others");
         PillarSaints x = crowd(2, 0, 0, 0);
         faulty(x, 1, "day 1000 is 1;", 2, 4);
         faulty(x, 1, "day 999 is 10;", 2, 11);
         faulty(x, 1, "day 1 1;", 1, 6);
         faulty(x, 1, "day age;", 1, 4);
-        faulty(x, 1, times(17, "day 0 is 0;"), 3, 176);
+        faulty(x, 1, "day 0 is 0;".repeat(17), 3, 176);
         fine(x, 2, "on 0 loaves 999;on 999 say 99;on 0 loaves 0;on 1 down 2;on 1 build 1 99;on 1 curse 2;", 6);
         faulty(x, 2, "on 0 loaves 1000;", 2, 12);
         faulty(x, 2, "on 0 say 100;", 2, 9);
@@ -480,16 +411,16 @@ public final class PromisesTest {
         faulty(x, 2, "on 0 build 1;", 1, 12);
         faulty(x, 2, "on 1000 build", 2, 3);
         faulty(x, 2, "on 0 on 0;", 1, 5);
-        faulty(x, 2, times(17, "on 0 say 0;"), 3, 176);
+        faulty(x, 2, "on 0 say 0;".repeat(17), 3, 176);
         faulty(x, 3, "16 so 1;", 2, 0);
         faulty(x, 3, "1 so 16;", 2, 5);
         faulty(x, 3, "1 and 16 so 1;", 2, 6);
         faulty(x, 3, "1 so 2 and 3;", 1, 7);
         faulty(x, 3, "1 and so 3;", 1, 6);
         faulty(x, 3, "so 3;", 1, 0);
-        faulty(x, 3, times(17, "1 so 2;"), 3, 112);
-        faulty(x, 3, times(16, "1 so 2;") + "16", 2, 112);
-        faulty(x, 3, times(16, "1 so 2;") + "so", 1, 112);
+        faulty(x, 3, "1 so 2;".repeat(17), 3, 112);
+        faulty(x, 3, "1 so 2;".repeat(16) + "16", 2, 112);
+        faulty(x, 3, "1 so 2;".repeat(16) + "so", 1, 112);
         due("the plan stays", x.look(12), 6);
         PillarSaints none = new PillarSaints();
         faulty(none, 2, "on 0 down 0;", 2, 10);
@@ -513,7 +444,7 @@ public final class PromisesTest {
     }
 
     private static void lawValues() {
-        promise = "terms 2, what the law tells";
+        by("terms 2, what the law tells");
         law("age", 8, 33);
         law("faith", 8, 7);
         law("doctrine", 9, 11);
@@ -572,7 +503,7 @@ public final class PromisesTest {
     }
 
     private static void ofAndAt() {
-        promise = "promise 12";
+        by("promise 12");
         PillarSaints x = crowd(1, 5, 6, 7);
         due("of(0, 5)", x.of(0, 5), 0);
         due("of(0, 6)", x.of(0, 6), -1);
@@ -590,7 +521,7 @@ public final class PromisesTest {
         due("of the dead: ground", x.of(1, 6), -1);
         due("of the dead: eats", x.of(1, 7), 3);
         due("of(2, 6)", x.of(2, 6), 0);
-        promise = "promise 13";
+        by("promise 13");
         due("at(0, 0)", x.at(0, 0), 10);
         due("at(0, 1)", x.at(0, 1), 0);
         due("at(0, 2)", x.at(0, 2), -100);
@@ -604,7 +535,7 @@ public final class PromisesTest {
     }
 
     private static void sky() {
-        promise = "promise 14";
+        by("promise 14");
         PillarSaints x = new PillarSaints();
         fine(x, 1, "day 0 is 3;day 999 is 0;day 0 is 8;day 2 is 5;", 4);
         due("sky(0)", x.sky(0), 8);
@@ -621,7 +552,7 @@ public final class PromisesTest {
     }
 
     private static void plan() {
-        promise = "terms 3, a plan";
+        by("terms 3, a plan");
         PillarSaints x = crowd(2, 10, 20, 30);
         x.act(0, 0, 500);
         fine(x, 0, "dies 0;leans 0;eats 0;", 3);
@@ -646,7 +577,7 @@ public final class PromisesTest {
     }
 
     private static void book() {
-        promise = "promise 15";
+        by("promise 15");
         PillarSaints x = crowd(1, 5);
         x.days(3);
         x.act(0, 0, 1);
@@ -671,7 +602,7 @@ public final class PromisesTest {
     }
 
     private static void goes() {
-        promise = "promise 16";
+        by("promise 16");
         PillarSaints x = crowd(2, 0, 36, 0);
         fine(x, 0, "dies 500 when age>21;dies 499;eats 2;leans 9;", 4);
         fine(x, 2, "on 0 loaves 9;on 0 say 7;on 1 loaves 3;", 3);
@@ -696,7 +627,7 @@ public final class PromisesTest {
     }
 
     private static void loaves() {
-        promise = "promise 17";
+        by("promise 17");
         PillarSaints x = crowd(2, 0, 0, 0);
         due("loaves()", x.loaves(), 2);
         x.set(3, 0, 40);
@@ -708,7 +639,7 @@ public final class PromisesTest {
     }
 
     private static void heir() {
-        promise = "promise 18";
+        by("promise 18");
         PillarSaints x = crowd(2, 1, 2, 3, 4);
         for (int i = 0; i < 4; i++) {
             due("heir(" + i + ")", x.heir(i), i);
@@ -728,7 +659,7 @@ public final class PromisesTest {
     }
 
     private static void comes() {
-        promise = "promise 19";
+        by("promise 19");
         PillarSaints x = row(10, 10, 10, 10);
         x.saint(1, 1, 0);
         x.saint(1, 1, 5);
@@ -747,7 +678,7 @@ public final class PromisesTest {
     }
 
     private static void scandal() {
-        promise = "promise 20";
+        by("promise 20");
         // those who come first sit highest, so the row from the lowest up is told backwards
         PillarSaints x = crowd(5, 90, 80, 0, -10, 3);
         due("scandal(0)", x.scandal(0), 3);
@@ -763,7 +694,7 @@ public final class PromisesTest {
     }
 
     private static void middle() {
-        promise = "promise 21";
+        by("promise 21");
         PillarSaints x = row(50, 10, 20, 60);
         due("nobody sits", x.middle(0), 0);
         due("nobody sits", x.middle(1), 0);
@@ -781,7 +712,7 @@ public final class PromisesTest {
     }
 
     private static void follows() {
-        promise = "promise 22";
+        by("promise 22");
         PillarSaints x = new PillarSaints();
         fine(x, 3, "3 so 4;2 so 3;0 and 1 so 2;15 so 15;4 and 15 so 14;", 5);
         due("follows(0)", x.follows(0), 0);
@@ -795,7 +726,7 @@ public final class PromisesTest {
     }
 
     private static void gives() {
-        promise = "promise 23";
+        by("promise 23");
         PillarSaints x = new PillarSaints();
         fine(x, 3, "0 and 1 and 2 so 5;3 and 4 so 5;6 and 2 so 5;7 so 3;5 so 7;5 so 9;", 6);
         due("gives(5, 0)", x.gives(5, 0), 2);
@@ -819,7 +750,7 @@ public final class PromisesTest {
     }
 
     private static void seen() {
-        promise = "promise 24";
+        by("promise 24");
         PillarSaints x = row(3, 3, 5, 4, 5, 2);
         due("seen(0)", x.seen(0), 2);
         due("seen(1)", x.seen(1), 2);
@@ -835,7 +766,7 @@ public final class PromisesTest {
     }
 
     private static void hears() {
-        promise = "promise 25";
+        by("promise 25");
         PillarSaints x = row(5, 3, 4, 3, 5, 9);
         due("hears(0, 0)", x.hears(0, 0), 3);
         due("hears(0, 1)", x.hears(0, 1), 4);
@@ -852,7 +783,7 @@ public final class PromisesTest {
     }
 
     private static void builds() {
-        promise = "promise 26";
+        by("promise 26");
         PillarSaints x = new PillarSaints();
         int[][] bad = {{0, 1}, {31, 1}, {1, 0}, {1, 31}, {-2, 5}};
         for (int[] b : bad) {
@@ -864,7 +795,7 @@ public final class PromisesTest {
         due("build", x.build(3, 1), 3);
         due("build", x.build(2, 2), 4);
         due("nothing forgotten", x.look(15), 1);
-        promise = "promise 27";
+        by("promise 27");
         due("builds(0)", x.builds(0), 30 * 30 + 31 + 33 * 2 + 36);
         due("builds(10)", x.builds(10), 0);
         due("builds(11)", x.builds(11), 1);
@@ -874,7 +805,7 @@ public final class PromisesTest {
         due("builds(9)", x.builds(9), -1);
         due("builds(1)", x.builds(1), -1);
         due("builds(-1)", x.builds(-1), -1);
-        promise = "promise 26";
+        by("promise 26");
         due("build", x.build(1, 30), 5);
         due("build", x.build(1, 30), 6);
         due("build", x.build(1, 30), 7);
@@ -887,7 +818,7 @@ public final class PromisesTest {
     }
 
     private static void gone() {
-        promise = "promise 28";
+        by("promise 28");
         PillarSaints x = new PillarSaints();
         due("gone", x.gone(0, 20, 20), 0);
         due("gone", x.gone(1000, 0, 40), 1000000);
@@ -901,7 +832,7 @@ public final class PromisesTest {
     }
 
     private static void lap() {
-        promise = "promise 29";
+        by("promise 29");
         PillarSaints x = row(10, 10, 10, 10, 10, 50);
         due("lap", x.lap(0, 4, 0, 0), 2);
         due("lap", x.lap(0, 4, 0, 1), 1);
@@ -922,7 +853,7 @@ public final class PromisesTest {
     }
 
     private static void game() {
-        promise = "promise 30";
+        by("promise 30");
         due("nobody", row(5, 5).game(0), -1);
         due("none to take", crowd(2, 0, 0).game(0), -1);
         // pillar 0: one at a time, so its heap counts modulo 2
@@ -940,7 +871,7 @@ public final class PromisesTest {
     }
 
     private static void undo() {
-        promise = "promise 31";
+        by("promise 31");
         PillarSaints x = crowd(2, 5, -40, 9);
         due("undo()", x.undo(), false);
         x.act(0, 0, 3);
@@ -996,7 +927,7 @@ public final class PromisesTest {
     }
 
     private static void image() {
-        promise = "promise 32";
+        by("promise 32");
         PillarSaints x = crowd(2, 5, 6, 7);
         due("image(false)", x.image(false), false);
         fine(x, 0, "eats 3;dies 0;", 2);
@@ -1050,7 +981,7 @@ public final class PromisesTest {
     }
 
     private static void look() {
-        promise = "promise 33";
+        by("promise 33");
         PillarSaints x = crowd(2, 5, 6, 7);
         fine(x, 0, "dies 1000 when doctrine=6;dies 0;leans 0;", 3);
         fine(x, 1, "day 0 is 4;day 1 is 4;", 2);
