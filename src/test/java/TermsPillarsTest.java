@@ -20,6 +20,7 @@ public final class TermsPillarsTest extends Due {
         newcomerBehindAll();
         climbFromNextLower();
         climbFromGround();
+        climbFromFullGround();
         climbWithNobody();
         climbWhenFull();
         basket();
@@ -265,6 +266,25 @@ public final class TermsPillarsTest extends Due {
         due("none lower: the first", y.at(1, 1), 2);
         due("then the second", y.at(0, 1), 3);
         due("THE GROUND", y.look(7), 0);
+    }
+
+    private static void climbFromFullGround() {
+        by("all fourteen on THE GROUND");
+        PillarSaints x = crowd(0, new int[14]);
+        due("the last has all others ahead", x.of(13, 6), 13);
+        due("a PILLAR", x.pillar(5), 0);
+        due("the first came up", x.at(0, 1), 0);
+        due("thirteen are left", x.look(7), 13);
+        due("the next is first", x.of(1, 6), 0);
+        due("the last", x.of(13, 6), 12);
+        PillarSaints y = calm("dies 1000 when doctrine=1;", 0, 1, 0, 0, 0, 0, 0, 0, 0, 0, 0, 0, 0, 0, 1);
+        due("the first and the last die", y.days(1), 2);
+        due("twelve are left", y.look(7), 12);
+        due("the next is first", y.of(1, 6), 0);
+        due("who is last now", y.of(12, 6), 11);
+        PillarSaints all = calm("dies 1000;", 0, new int[14]);
+        due("all die", all.days(1), 14);
+        due("none is left", all.look(7), 0);
     }
 
     private static void climbWithNobody() {
