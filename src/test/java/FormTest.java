@@ -15,6 +15,8 @@ import java.util.regex.Pattern;
 public final class FormTest {
     private static final String FACE = "state pillar saint set act days feed end text fault of at sky book goes loaves heir comes "
             + "scandal middle follows gives seen hears build builds gone lap game undo image look";
+    private static final Set<String> LIBRARY = Set.of("Math.max", "Math.min", "Math.abs", "Math.floorDiv", "Math.floorMod",
+            "Integer.bitCount", "Integer.compare", "Arrays.fill", "Arrays.copyOf", "Arrays.copyOfRange", "System.arraycopy");
     private static int wrong = 0;
 
     private static void check(boolean fine, String what) {
@@ -81,6 +83,10 @@ public final class FormTest {
         Matcher m = Pattern.compile("\\b(throw|throws|try|catch|synchronized|assert|package|float|double|hashCode|toString|Random|System\\.(?!arraycopy)\\w+)\\b|->|::").matcher(code);
         while (m.find()) {
             check(false, "rules 3, 4, 6: " + m.group());
+        }
+        Matcher library = Pattern.compile("\\b(?:Math|Integer|Long|String|Arrays|System)\\.\\w+").matcher(code);
+        while (library.find()) {
+            check(LIBRARY.contains(library.group()), "rule 4: " + library.group());
         }
         Matcher imports = Pattern.compile("import ([\\w.]+);").matcher(code);
         while (imports.find()) {
